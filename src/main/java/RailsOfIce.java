@@ -45,6 +45,7 @@ public final class RailsOfIce {
     private static final int MOST_ROW = 16;
     private static final int UNKNOWN = 99;
     private static final int POURED = 10;
+    private static final int MOST_POURED = 3;
     private static final int MOST_POURINGS = 20;
     private static final int MOST_ORDERED = 4;
     private static final int MOST_ORDERS = 24;
@@ -134,7 +135,11 @@ public final class RailsOfIce {
                 mind.noon = letters.number(place + 2, 1);
                 return true;
             case 'h':
-                return mind.letGoBy(first);
+                if (outside(first, 1, MOST_HOURS) != 0 || mind.hour + first > LAST_HOUR) {
+                    return false;
+                }
+                mind.go(first);
+                return true;
             default:
                 return false;
         }
@@ -531,46 +536,10 @@ public final class RailsOfIce {
         if (now.how[train] != ON_ITS_WAY) {
             return refuse(STATE);
         }
-        int bits = pouredOneAtMost(train);
-        if (bits == NOTHING) {
-            bits = pouredTwo(train);
-        }
-        return bits == NOTHING ? pouredThree(train) : bits;
-    }
-
-    private int pouredOneAtMost(int train) {
-        if (pouredGetsThrough(0, train)) {
-            return 0;
-        }
-        for (int one = 0; one < now.many; one++) {
-            if (pouredGetsThrough(1 << one, train)) {
-                return 1 << one;
-            }
-        }
-        return NOTHING;
-    }
-
-    /** The greatest bit goes outermost, so that the bits rise. */
-    private int pouredTwo(int train) {
-        for (int one = 1; one < now.many; one++) {
-            for (int two = 0; two < one; two++) {
-                int bits = 1 << one | 1 << two;
-                if (pouredGetsThrough(bits, train)) {
+        for (int size = 0; size <= MOST_POURED; size++) {
+            for (int bits = 0; bits < 1 << now.many; bits++) {
+                if (Integer.bitCount(bits) == size && pouredGetsThrough(bits, train)) {
                     return bits;
-                }
-            }
-        }
-        return NOTHING;
-    }
-
-    private int pouredThree(int train) {
-        for (int one = 2; one < now.many; one++) {
-            for (int two = 1; two < one; two++) {
-                for (int three = 0; three < two; three++) {
-                    int bits = 1 << one | 1 << two | 1 << three;
-                    if (pouredGetsThrough(bits, train)) {
-                        return bits;
-                    }
                 }
             }
         }
@@ -1261,11 +1230,6 @@ public final class RailsOfIce {
                     return weight;
             }
         }
-
-        /** Whether several trains may be there at once. */
-        static boolean hasRoom(int kind) {
-            return kind == SIDING || kind == HALT;
-        }
     }
 
     /** Yards, trains and weather at one hour, and how an hour goes by. */
@@ -1372,14 +1336,6 @@ public final class RailsOfIce {
             return true;
         }
 
-        boolean letGoBy(int n) {
-            if (n < 1 || n > MOST_HOURS || hour + n > LAST_HOUR) {
-                return false;
-            }
-            go(n);
-            return true;
-        }
-
         // How hours go by.
 
         void go(int n) {
@@ -1453,7 +1409,7 @@ public final class RailsOfIce {
                     ended[train] = passed;
                     return;
                 }
-                if (!bears(next, weight[train]) || isTaken(next)) {
+                if (frost[next] < Kinds.wants(kind[next], figure[next], weight[train]) || isTaken(next)) {
                     return;
                 }
                 at[train] = next;
@@ -1461,9 +1417,9 @@ public final class RailsOfIce {
             }
         }
 
-        /** Whether a train on its way is there that lets no other in. */
+        /** Whether a train on its way is there that lets no other in; there is room on sidings and halts. */
         private boolean isTaken(int yard) {
-            if (Kinds.hasRoom(kind[yard])) {
+            if (kind[yard] == SIDING || kind[yard] == HALT) {
                 return false;
             }
             for (int train = 0; train < trains; train++) {
@@ -1476,8 +1432,9 @@ public final class RailsOfIce {
 
         private void sinkTrains() {
             for (int train = 0; train < trains; train++) {
-                if (how[train] == ON_ITS_WAY && at[train] != AHEAD
-                        && frost[at[train]] < wanted(at[train], weight[train]) / 2) {
+                int under = at[train];
+                if (how[train] == ON_ITS_WAY && under != AHEAD
+                        && frost[under] < Kinds.wants(kind[under], figure[under], weight[train]) / 2) {
                     how[train] = IN_THE_LAKE;
                     ended[train] = passed;
                 }
@@ -1491,12 +1448,8 @@ public final class RailsOfIce {
 
         // What can be seen.
 
-        private int wanted(int yard, int load) {
-            return Kinds.wants(kind[yard], figure[yard], load);
-        }
-
         boolean bears(int yard, int load) {
-            return frost[yard] >= wanted(yard, load);
+            return frost[yard] >= Kinds.wants(kind[yard], figure[yard], load);
         }
 
         boolean allBear(int load) {
