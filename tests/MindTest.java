@@ -16,6 +16,7 @@ public final class MindTest {
         runs();
         day();
         stands();
+        standsTillTheLake();
         lots();
         due.end();
     }
@@ -294,6 +295,41 @@ public final class MindTest {
         due.is("no train", -1, x.stands(-1));
         x.hours(9);
         due.is("through", 0, x.stands(0));
+    }
+
+    /** It stands in the hour at whose end it is in the lake; in one in which it went on it does not. */
+    private static void standsTillTheLake() {
+        RailsOfIce x = Worlds.still(40, 10);
+        x.train(40, 0, 1);
+        x.hours(1);
+        due.is("on yard 0", 72, x.stands(0));
+        x.frost(0, 19);
+        due.is("in the lake at the end", 1, x.stands(0));
+        x.frost(1, 40);
+        due.is("gone on", 0, x.stands(0));
+        x.waits(0, 5);
+        due.is("in the lake where it waits", 0, x.stands(0));
+        x.hours(1);
+        due.is("in the lake", 2, x.told(0, 5));
+        due.is("stands no more", 0, x.stands(0));
+        x.many(2);
+        x.frost(0, 40);
+        x.frost(1, 40);
+        x.train(40, 9, 1);
+        x.turn(0, 1, 0);
+        due.is("never goes", 72, x.stands(1));
+        x.frost(0, 60);
+        x.frost(1, 28);
+        // Behind it yard 0 has 51, no less than half of 60.
+        due.is("stands on 0", 71, x.stands(1));
+        x.waits(1, 4);
+        due.is("waits four hours before", 67, x.stands(1));
+        x = Worlds.still(45, 40);
+        x.train(40, 9, 1);
+        x.train(40, 9, 1);
+        x.turn(1, 0, 0);
+        due.is("goes on at once", 0, x.stands(0));
+        due.is("finds 36 on yard 0", 72, x.stands(1));
     }
 
     private static void lots() {

@@ -20,6 +20,7 @@ public final class PlansTest {
         needed();
         key();
         blocker();
+        blockerOfOthers();
         due.end();
     }
 
@@ -410,5 +411,27 @@ public final class PlansTest {
         x.train(30, 0, 1);
         x.train(10, 0, 1);
         due.is("ahead of the line it blocks none", -9, x.blocker());
+    }
+
+    /** The others of a train are compared with these same others now, and of all most are wanted. */
+    private static void blockerOfOthers() {
+        RailsOfIce x = Worlds.still(40, 40, 49);
+        x.train(40, 1, 1);
+        x.train(40, 0, 1);
+        due.is("one is through now", 1, x.through(72, 0));
+        due.is("one is through without it, but another", 0, x.blocker());
+        x.waits(0, 48);
+        due.is("who comes later hinders none", -9, x.blocker());
+        x = Worlds.still(40, 42);
+        x.train(40, 2, 1);
+        x.train(42, 0, 1);
+        x.train(38, 0, 1);
+        x.train(42, 0, 1);
+        due.is("two are through", 2, x.through(72, 0));
+        due.is("by 42, who is not borne, all stay as they were", -9, x.blocker());
+        x.frost(0, 42);
+        // Train 0 takes 2 off both yards: without it all three others go, with it train 2 alone.
+        due.is("two are through", 2, x.through(72, 0));
+        due.is("three without 0", 0, x.blocker());
     }
 }

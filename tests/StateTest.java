@@ -8,6 +8,7 @@ public final class StateTest {
         lineStatements();
         lineFaultsOfLetters();
         lineFaultsOfSense();
+        lineWaitsOfWhoIsNotOnItsWay();
         yard();
         turn();
         frost();
@@ -146,10 +147,29 @@ public final class StateTest {
         due.is("none is taken away under it", 3, Worlds.line(x, "t0901;h03;n03;"));
         due.is("where it is", 2, x.told(0, 3));
         due.is("through, nothing holds", 2, Worlds.line(x, "h02;n02;"));
-        due.is("a train that is through waits", 1, Worlds.line(x, "w007;"));
+        due.is("who is through cannot wait", -2000, Worlds.line(x, "w007;"));
+        due.is("nothing is counted", 0, x.count(13));
         x.hours(72);
         due.is("HOUR above 999", -2048, Worlds.line(x, "h72;h72;h72;h72;h72;h72;h72;h72;h72;h72;h72;h72;h72;"));
         due.is("nothing came", 77, x.count(2));
+    }
+
+    private static void lineWaitsOfWhoIsNotOnItsWay() {
+        RailsOfIce x = Worlds.still(40, 40);
+        due.is("through behind hours of the text", -2010, Worlds.line(x, "t4001;h03;w007;"));
+        due.is("no hours came", 0, x.count(2));
+        due.is("on the line", 3, Worlds.line(x, "t4001;h02;w007;"));
+        due.is("it waits there", 7, x.told(0, 4));
+        due.is("through, whatever it waits", -2015, Worlds.line(x, "t4001;w100;h08;w000;"));
+        due.is("another waits", 3, Worlds.line(x, "t4001;h08;w148;"));
+        due.is("it waits", 48, x.told(1, 4));
+        x = Worlds.still(40, 0);
+        due.is("in the lake behind hours of the text", -2022, Worlds.line(x, "t4001;h01;y000019;h01;w000;"));
+        due.is("no train came", 0, x.count(1));
+        due.is("in the lake", 4, Worlds.line(x, "t4001;h01;y000019;h01;"));
+        due.is("how", 2, x.told(0, 5));
+        due.is("who is in the lake cannot wait", -2004, Worlds.line(x, "c12;w000;"));
+        due.is("no cold came", 0, x.count(3));
     }
 
     private static void yard() {

@@ -144,14 +144,14 @@ final class Slow {
                 yard.frost = Math.min(99, Math.max(0, yard.frost));
             }
             for (Train train : trains) {
-                boolean waiting = train.waits > 0;
                 int was = train.at;
-                if (train.how == 0 && waiting) {
+                train.stood = 0;
+                if (train.how == 0 && train.waits > 0) {
                     train.waits--;
                 } else if (train.how == 0) {
                     go(train);
+                    train.stood = train.how == 0 && train.at == was ? 1 : 0;
                 }
-                train.stood = !waiting && train.how == 0 && train.at == was ? 1 : 0;
             }
             for (Train train : trains) {
                 if (train.how == 0 && train.at >= 0) {
@@ -159,7 +159,6 @@ final class Slow {
                     if (under.frost < under.wants(under.kind, train.weight) / 2) {
                         train.how = 2;
                         train.when = gone;
-                        train.stood = 0;
                     }
                 }
             }
@@ -346,7 +345,7 @@ final class Slow {
             case 'w' -> {
                 int train = s.charAt(1) - '0';
                 int waits = Integer.parseInt(s.substring(2, 4));
-                if (train >= world.trains.size() || waits > 48) {
+                if (train >= world.trains.size() || waits > 48 || world.trains.get(train).how != 0) {
                     return false;
                 }
                 world.trains.get(train).waits = waits;
@@ -934,7 +933,17 @@ final class Slow {
     }
 
     int blocker() {
-        return most(now.trains.size(), i -> t(i).how == 0, (m, i) -> m.trains.remove((int) i));
+        List<Train> after = mind().after(72).trains;
+        for (int freed = after.size(); freed > 0; freed--) {
+            for (int i = 0; i < after.size(); i++) {
+                int away = i;
+                long before = after.stream().filter(t -> t != after.get(away) && t.how == 1).count();
+                if (t(i).how == 0 && freed > before && freed == through(m -> m.trains.remove(away))) {
+                    return i;
+                }
+            }
+        }
+        return -9;
     }
 
     int mean(int n, int what) {

@@ -928,21 +928,32 @@ public final class RailsOfIce {
 
     /** Promise 39. */
     public int blocker() {
-        mind.become(now);
-        int most = throughInMind();
+        int most = NOTHING;
         int best = NOTHING;
         for (int train = 0; train < now.trains; train++) {
             if (now.how[train] == ON_ITS_WAY) {
-                mind.become(now);
-                mind.how[train] = AWAY;
-                int through = throughInMind();
-                if (through > most) {
-                    most = through;
+                int others = othersThroughNow(train);
+                int freed = othersThroughWithout(train);
+                if (freed > others && freed > most) {
+                    most = freed;
                     best = train;
                 }
             }
         }
         return best;
+    }
+
+    /** How many others are through behind 72 hours as things stand. */
+    private int othersThroughNow(int train) {
+        mind.become(now);
+        int all = throughInMind();
+        return mind.how[train] == THROUGH ? all - 1 : all;
+    }
+
+    private int othersThroughWithout(int train) {
+        mind.become(now);
+        mind.how[train] = AWAY;
+        return throughInMind();
     }
 
     // ---- figures of the whole line
@@ -1001,11 +1012,12 @@ public final class RailsOfIce {
         mind.become(now);
         mind.feelWeather();
         int stood = 0;
-        for (int n = 0; n < MOST_HOURS; n++) {
+        for (int n = 0; n < MOST_HOURS && mind.how[train] == ON_ITS_WAY; n++) {
             boolean waited = mind.waits[train] > 0;
             int at = mind.at[train];
             mind.passHour();
-            if (!waited && mind.how[train] == ON_ITS_WAY && mind.at[train] == at) {
+            // It stood also if it is in the lake now: it sinks at the end of the hour only.
+            if (!waited && mind.how[train] != THROUGH && mind.at[train] == at) {
                 stood++;
             }
         }
@@ -1329,7 +1341,7 @@ public final class RailsOfIce {
         }
 
         boolean letWait(int train, int wait) {
-            if (train >= trains || wait > MOST_WAITS) {
+            if (train >= trains || wait > MOST_WAITS || how[train] != ON_ITS_WAY) {
                 return false;
             }
             waits[train] = wait;
