@@ -433,5 +433,18 @@ public final class PlansTest {
         // Train 0 takes 2 off both yards: without it all three others go, with it train 2 alone.
         due.is("two are through", 2, x.through(72, 0));
         due.is("three without 0", 0, x.blocker());
+        x = Worlds.still(42, 42);
+        x.train(1, 1, 1);
+        x.train(1, 1, 1);
+        x.train(41, 0, 1);
+        due.is("without 0 or 1 both others are through: the least", 0, x.blocker());
+        x = Worlds.still(50, 49);
+        x.train(1, 2, 1);
+        x.train(49, 2, 1);
+        x.train(48, 0, 1);
+        x.train(47, 0, 1);
+        // Without 0 one more of the others is through (1, who stands for it), without 2 too (3), but
+        // then two others are through altogether.
+        due.is("most others", 2, x.blocker());
     }
 }

@@ -1315,7 +1315,7 @@ public final class RailsOfIce {
         }
 
         boolean becomeYard(int yard, int newKind, int newFigure, int newFrost) {
-            if (yard >= many || newKind > SHADE) {
+            if (yard < 0 || yard >= many || newKind < YARD || newKind > SHADE) {
                 return false;
             }
             kind[yard] = newKind;
@@ -1341,7 +1341,10 @@ public final class RailsOfIce {
         }
 
         boolean letWait(int train, int wait) {
-            if (train >= trains || wait > MOST_WAITS || how[train] != ON_ITS_WAY) {
+            if (train < 0 || train >= trains || wait < 0 || wait > MOST_WAITS) {
+                return false;
+            }
+            if (how[train] != ON_ITS_WAY) {
                 return false;
             }
             waits[train] = wait;
