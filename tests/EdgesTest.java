@@ -16,22 +16,8 @@ public final class EdgesTest {
         due.end();
     }
 
-    /**
-     * Two yards at HOUR 6 that freeze 1 an hour, 12 hours a day, and do not melt: with 6 now they bear
-     * 40 in HOUR 75, so that a train of pace 1 is through in HOUR 77, the 72nd from now.
-     */
-    private static RailsOfIce slowFrost(int frost) {
-        RailsOfIce x = Worlds.still(40, 40);
-        x.hours(6);
-        x.weather(0, 1);
-        x.frost(0, frost);
-        x.frost(1, frost);
-        x.train(40, 0, 1);
-        return x;
-    }
-
     private static void seventyTwoHours() {
-        RailsOfIce x = slowFrost(6);
+        RailsOfIce x = Worlds.slowFrost(6);
         due.is("frostIn", 40, x.frostIn(0, 70));
         due.is("when", 72, x.trainIn(0, 72, 2));
         due.is("not yet", -9, x.trainIn(0, 71, 2));
@@ -54,7 +40,7 @@ public final class EdgesTest {
     }
 
     private static void seventyThreeHours() {
-        RailsOfIce x = slowFrost(5);
+        RailsOfIce x = Worlds.slowFrost(5);
         due.is("when", -9, x.trainIn(0, 72, 2));
         due.is("through", 0, x.through(72, 0));
         due.is("last", -9, x.last(0));

@@ -16,6 +16,14 @@ final class Due {
         }
     }
 
+    void same(String what, String due, String got) {
+        asked++;
+        if (!due.equals(got)) {
+            wrong++;
+            System.out.println(test + ": " + what + " is\n" + got + "\ndue is\n" + due);
+        }
+    }
+
     void holds(String what, boolean so) {
         is(what, 1, so ? 1 : 0);
     }
