@@ -400,7 +400,20 @@ public final class BoundsTest {
         x.train(1, 0, 1);
         x.restore();
         due.is("no TRAIN again", -1, x.told(0, 0));
+        x.train(60, 9, 3);
+        x.hours(9);
+        x.waits(0, 48);
+        x.restore();
         due.is("the first again", 0, x.train(2, 0, 1));
+        int[] dues = {2, 0, 1, -1, 0, 0};
+        for (int what = 0; what <= 5; what++) {
+            due.is("a new one, what " + what, dues[what], x.told(0, what));
+        }
+        Worlds.toHour(x, 72);
+        due.is("through", 1, x.told(0, 5));
+        x.restore();
+        x.train(2, 0, 1);
+        due.is("on its way", 0, x.told(0, 5));
     }
 
     private static void promise50() {

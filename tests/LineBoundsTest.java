@@ -192,6 +192,10 @@ public final class LineBoundsTest {
         due.is("KIND 5", 5, x.yard(7, 0));
         due.is("FIGURE 9", 9, x.yard(7, 1));
         due.is("FROST 99", 99, x.yard(7, 2));
+        due.is("KIND, FIGURE, FROST", 1, Worlds.line(x, "y033456;"));
+        due.is("KIND 3", 3, x.yard(3, 0));
+        due.is("FIGURE 4", 4, x.yard(3, 1));
+        due.is("FROST 56", 56, x.yard(3, 2));
     }
 
     private static void aTrain() {

@@ -24,9 +24,10 @@ public final class MindBoundsTest {
         promise24OfSeveral();
         promise25();
         promise26();
-        promise26TheGreatest();
+        promise26EveryOrder();
         promise27();
         promise27TheGreatest();
+        promise27TheLater();
         promise28();
         promise29();
         promise30();
@@ -39,7 +40,10 @@ public final class MindBoundsTest {
         promise36();
         promise37();
         promise38();
+        promise38TheMost();
         promise39();
+        promise39Hours();
+        promise39WhoHelps();
         promise40();
         promise41();
         promise42();
@@ -249,16 +253,11 @@ public final class MindBoundsTest {
      * who was on YARD 1 goes on.
      */
     private static void promise21TheGreatest() {
-        RailsOfIce x = Worlds.still(40, 40);
-        x.hours(17);
-        x.train(1, 0, 2);
-        x.hours(1);
-        x.waits(0, 48);
-        x.train(10, 9, 1);
-        x.frost(0, 13);
-        x.frost(1, 99);
-        x.weather(0, 1);
-        x.weather(1, 2);
+        RailsOfIce x = onlyFromHour66(17);
+        due.is("49 would be it", -9, x.bestWait(1, 0));
+        due.is("49 would be it", -9, x.bestWait(1, 1));
+        due.is("49 would be the last", -9, x.last(1));
+        x = onlyFromHour66(18);
         due.is("48 at most", 48, x.bestWait(1, 0));
         due.is("51 HOURS", 51, x.bestWait(1, 1));
         due.is("the last likewise", 48, x.last(1));
@@ -267,12 +266,29 @@ public final class MindBoundsTest {
         due.is("behind who goes on", 50, x.bestWait(1, 1));
     }
 
+    private static RailsOfIce onlyFromHour66(int hour) {
+        RailsOfIce x = Worlds.still(40, 40);
+        x.hours(hour - 1);
+        x.train(1, 0, 2);
+        x.hours(1);
+        x.waits(0, 48);
+        x.train(10, 9, 1);
+        x.frost(0, 13);
+        x.frost(1, 99);
+        x.weather(0, 1);
+        x.weather(1, 2);
+        return x;
+    }
+
     private static void promise22Weight() {
         RailsOfIce x = Worlds.still(90, 60);
         due.is("no TRAIN", -1, x.heaviest(0, 0));
         x.turn(0, 1, 0);
         x.train(1, 0, 1);
         due.is("60 at most", 60, x.heaviest(0, 0));
+        x.frost(0, 99);
+        x.frost(1, 99);
+        due.is("60 at most, though 61 would be borne", 60, x.heaviest(0, 0));
         x.frost(1, 59);
         due.is("59", 59, x.heaviest(0, 0));
         x.frost(1, 1);
@@ -299,6 +315,9 @@ public final class MindBoundsTest {
         due.is("0 at least", 0, x.heaviest(0, 1));
         x.frost(0, 44);
         due.is("by 1 less it comes by night", 9, x.heaviest(0, 1));
+        x.weather(1, 6);
+        x.frost(0, 49);
+        due.is("19 is left by 0", -9, x.heaviest(0, 1));
     }
 
     private static void promise22Pace() {
@@ -387,6 +406,7 @@ public final class MindBoundsTest {
     private static void promise25() {
         due.is("WEIGHT 60, none", 0, Worlds.still(60, 60).strongest(60));
         due.is("WEIGHT 60, one", 1, Worlds.still(60, 59).strongest(60));
+        due.is("WEIGHT 60, the first", 1, Worlds.still(59, 60).strongest(60));
         due.is("WEIGHT 61", -6, Worlds.still(60, 60).strongest(61));
         due.is("WEIGHT 1, two", 2, Worlds.still(0, 0).strongest(1));
         due.is("WEIGHT 1, none", 0, Worlds.still(1, 1).strongest(1));
@@ -421,19 +441,39 @@ public final class MindBoundsTest {
         due.is("five are ahead", -3, x.order(0));
         due.is("five are ahead", -3, x.order(1));
         due.is("five are ahead, what", -2, x.order(2));
+        x.waits(4, 48);
+        x.frost(0, 42);
+        x.hours(1);
+        due.is("four are ahead again", 1234, x.order(0));
     }
 
-    /** The ice is 41, 32, 23, 14 for the four. */
-    private static void promise26TheGreatest() {
-        RailsOfIce x = Worlds.still(41, 41);
-        x.train(1, 0, 1);
-        x.hours(1);
-        for (int train = 1; train <= 4; train++) {
-            x.train(10 * train, 9, 1);
+    /** The ice is 41, 32, 23, 14 for the four, so that only the heavier before the lighter are all through. */
+    private static void promise26EveryOrder() {
+        int orders = 0;
+        for (int order = 1234; order <= 4321; order++) {
+            int[] first = {order / 1000, order / 100 % 10, order / 10 % 10, order % 10};
+            int[] weights = new int[5];
+            for (int i = 0; i < 4; i++) {
+                if (first[i] >= 1 && first[i] <= 4) {
+                    weights[first[i]] = 40 - 10 * i;
+                }
+            }
+            if (weights[1] * weights[2] * weights[3] * weights[4] != 0) {
+                orders++;
+                RailsOfIce x = Worlds.still(41, 41);
+                x.train(1, 0, 1);
+                for (int train = 1; train <= 4; train++) {
+                    x.train(weights[train], 9, 1);
+                }
+                due.is("five are ahead", -3, x.order(0));
+                x.hours(1);
+                due.is("four are ahead", -1, x.told(1, 3));
+                due.is("the heavier the sooner", order, x.order(0));
+                due.is("all five", 5, x.order(1));
+                due.holds("but as they are", order == 1234 || x.through(72, 0) < 5);
+            }
         }
-        due.is("the heavier the sooner", 4321, x.order(0));
-        due.is("all five", 5, x.order(1));
-        due.is("as they are: 41 and 32 for two of the four", 3, x.through(72, 0));
+        due.is("orders", 24, orders);
     }
 
     private static void promise27() {
@@ -475,6 +515,25 @@ public final class MindBoundsTest {
         x.weather(1, 1);
         due.is("24 at most", 2400, x.timetable(2, 1));
         due.is("24 at most", 24, x.timetable(1, 2));
+    }
+
+    private static void promise27TheLater() {
+        RailsOfIce x = Worlds.still(40, 40);
+        x.hours(6);
+        x.weather(0, 1);
+        x.train(40, 5, 1);
+        x.train(40, 0, 1);
+        // 35 is left behind the first, and 40 again from HOUR 22 on.
+        due.is("behind 17 HOURS by 0 and 6, behind 9 by 6 and 0", 600, x.timetable(0, 1));
+        due.is("and the other way about", 6, x.timetable(1, 0));
+        x = Worlds.slowFrost(6);
+        x.train(1, 0, 1);
+        due.is("the later is through in the 72nd HOUR", 6, x.timetable(0, 1));
+        due.is("the later is through in the 72nd HOUR", 6, x.timetable(1, 0));
+        x = Worlds.slowFrost(5);
+        x.train(1, 0, 1);
+        due.is("in the 73rd", -9, x.timetable(0, 1));
+        due.is("in the 73rd", -9, x.timetable(1, 0));
     }
 
     private static void promise28() {
@@ -552,6 +611,9 @@ public final class MindBoundsTest {
         due.is("0 and 0", 0, x.tells());
         // 98 beside 99 is 1 less; 99 beside the mean of 98 and 99, cut, is 1 more.
         due.is("of 99", 0, Worlds.still(98, 99, 99, 99).tells());
+        due.is("10 less beside 60; 60 beside 65", 0, Worlds.still(50, 60, 80).tells());
+        due.is("10 less; 60 beside 71", 1, Worlds.still(50, 60, 92).tells());
+        due.is("15 less than 65, the mean of 60 and 71", 1, Worlds.still(60, 50, 71, 72).tells());
         due.is("39 beside 40, cut from 40 and 41", 1, Worlds.still(40, 39, 41, 41).tells());
     }
 
@@ -567,6 +629,12 @@ public final class MindBoundsTest {
         due.is("there", 0, x.near(0));
         due.is("of both the nearer", 7, x.near(7));
         due.is("of both the nearer", 7, x.near(8));
+        x.turn(3, 4, 0);
+        x.turn(10, 4, 0);
+        due.is("of several the nearest", 1, x.near(4));
+        due.is("of several the nearest", 3, x.near(7));
+        x.turn(3, 0, 0);
+        x.turn(10, 0, 0);
         x.many(15);
         due.is("beyond is none", 14, x.near(14));
         x.turn(0, 0, 0);
@@ -709,6 +777,15 @@ public final class MindBoundsTest {
         due.is("69, and no noon", 69, x.needed(0, 0));
         x.frost(1, 0);
         due.is("the other lacks it", -9, x.needed(0, 0));
+        x = Worlds.still(40, 99);
+        x.turn(0, 1, 0);
+        x.turn(1, 3, 0);
+        x.hours(10);
+        x.weather(1, 5);
+        x.train(60, 0, 1);
+        due.is("a bridge that wants 90 and melts 10: 100 is too much", -9, x.needed(0, 0));
+        x.weather(1, 4);
+        due.is("and melts 8", 98, x.needed(0, 0));
     }
 
     private static void promise38() {
@@ -732,6 +809,74 @@ public final class MindBoundsTest {
         x.weather(0, 9);
         x.train(29, 0, 1);
         due.is("it is through anyhow", -9, x.key());
+    }
+
+    /** Two TRAINS stand ahead of YARD 1, one ahead of YARD 3. */
+    private static void promise38TheMost() {
+        RailsOfIce x = Worlds.still(50, 50, 50, 50);
+        x.train(40, 0, 1);
+        x.hours(3);
+        x.train(38, 0, 1);
+        x.train(36, 0, 1);
+        x.turn(2, 3, 0);
+        x.frost(0, 40);
+        x.turn(1, 2, 5);
+        x.frost(1, 42);
+        x.turn(3, 2, 3);
+        x.frost(3, 41);
+        due.is("none is through", 0, x.through(72, 0));
+        due.is("two by YARD 1, one by YARD 3", 1, x.key());
+        x.waits(1, 48);
+        due.is("one is through now", 1, x.through(72, 0));
+        due.is("two by either: the least", 1, x.key());
+        x.turn(3, 2, 4);
+        due.is("by YARD 1 no other, as it stands on the siding then", 3, x.key());
+    }
+
+    private static void promise39Hours() {
+        RailsOfIce x = Worlds.slowFrost(6);
+        x.train(1, 1, 1);
+        due.is("without it the other is through in the 72nd HOUR", 1, x.blocker());
+        x = Worlds.slowFrost(5);
+        x.train(1, 1, 1);
+        due.is("in the 73rd", -9, x.blocker());
+        x = Worlds.still(42, 42);
+        x.train(1, 1, 1);
+        x.train(1, 1, 1);
+        x.train(41, 0, 1);
+        due.is("of several the least", 0, x.blocker());
+        x = Worlds.still(40, 40);
+        x.train(40, 1, 1);
+        x.train(40, 1, 1);
+        due.is("not more than now, but another", 0, x.blocker());
+        x.train(38, 0, 1);
+        due.is("39 and 38 are borne as they are but one", 0, x.blocker());
+    }
+
+    /** Ahead of X the other goes to YARD 1 by noon, and is lost there; behind it, by night. */
+    private static void promise39WhoHelps() {
+        RailsOfIce x = Worlds.still(99, 40, 40);
+        x.hours(8);
+        x.train(1, 0, 2);
+        x.hours(1);
+        x.waits(0, 13);
+        x.train(20, 0, 1);
+        x.hours(1);
+        x.turn(0, 3, 0);
+        x.frost(1, 23);
+        x.frost(2, 0);
+        x.weather(0, 9);
+        x.weather(1, 3);
+        due.is("X is on YARD 1", 1, x.told(0, 3));
+        due.is("both are through", 2, x.through(72, 0));
+        due.is("without X none were, so it is none", -9, x.blocker());
+        x = Worlds.still(50, 50);
+        x.train(1, 5, 1);
+        x.train(1, 1, 1);
+        x.train(45, 0, 1);
+        x.train(46, 0, 1);
+        due.is("two are through", 2, x.through(72, 0));
+        due.is("without 0 three others are, without 1 two", 0, x.blocker());
     }
 
     private static void promise39() {
@@ -781,6 +926,10 @@ public final class MindBoundsTest {
         x.frost(15, 56);
         due.is("16 over 16", 41, x.mean(0, 0));
         due.is("the last is the greatest", 16, x.mean(0, 1));
+        x.frost(0, 99);
+        due.is("the first is the greatest", 59, x.mean(0, 1));
+        x.frost(0, 0);
+        due.is("the first is the least", 56, x.mean(0, 1));
     }
 
     private static void promise41() {

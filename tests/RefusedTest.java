@@ -25,6 +25,7 @@ public final class RefusedTest {
         promises24to32();
         promises33to37();
         promises40to47();
+        threeAtOnce();
         from(Worlds::full);
         full();
         from(RefusedTest::hour928);
@@ -358,6 +359,26 @@ public final class RefusedTest {
         refused("lots(21, 1, -1)", -6, x -> x.lots(21, 1, -1));
         refused("lots(1, 1, -1)", -2, x -> x.lots(1, 1, -1));
         refused("lots(20, 1, 2)", -2, x -> x.lots(20, 1, 2));
+    }
+
+    private static void threeAtOnce() {
+        refused("turn(-1, -1, -1)", -1, x -> x.turn(-1, -1, -1));
+        refused("turn(6, 6, 10)", -1, x -> x.turn(6, 6, 10));
+        refused("train(0, -1, 0)", -4, x -> x.train(0, -1, 0));
+        refused("train(61, 10, 4)", -6, x -> x.train(61, 10, 4));
+        refused("train(61, 10, 0)", -4, x -> x.train(61, 10, 0));
+        refused("train(61, -1, 4)", -4, x -> x.train(61, -1, 4));
+        refused("train(0, 10, 4)", -4, x -> x.train(0, 10, 4));
+        refused("trainIn(-1, -1, -1)", -1, x -> x.trainIn(-1, -1, -1));
+        refused("trainIn(4, 73, 3)", -1, x -> x.trainIn(4, 73, 3));
+        refused("weather(min, min)", -2, x -> x.weather(MIN, MIN));
+        refused("weather(max, max)", -2, x -> x.weather(MAX, MAX));
+        refused("waits(min, max)", -1, x -> x.waits(MIN, MAX));
+        refused("thin(min, max)", -4, x -> x.thin(MIN, MAX));
+        refused("thin(max, min)", -4, x -> x.thin(MAX, MIN));
+        refused("lots(min, 0, max)", -4, x -> x.lots(MIN, 0, MAX));
+        refused("lots(max, 0, min)", -6, x -> x.lots(MAX, 0, MIN));
+        refused("timetable(min, min)", -1, x -> x.timetable(MIN, MIN));
     }
 
     private static void full() {
