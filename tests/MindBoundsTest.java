@@ -974,6 +974,21 @@ public final class MindBoundsTest {
         x = Worlds.still(40, 40);
         x.train(1, 9, 1);
         due.is("without any TRAIN", 0, x.day());
+        promise42LikeRefusals();
+    }
+
+    /** Frost that melts whole, so that what is less looks like a refusal, and is none. */
+    private static void promise42LikeRefusals() {
+        RailsOfIce x = Worlds.still(0, 0);
+        x.weather(1, 1);
+        for (int less = 1; less <= 9; less++) {
+            x.frost(0, less / 2);
+            x.frost(1, less - less / 2);
+            due.is(less + " less", -less, x.day());
+        }
+        for (int what = 11; what <= 16; what++) {
+            due.is("no refusal " + (10 - what), 0, x.count(what));
+        }
     }
 
     private static void promise43() {
